@@ -47,6 +47,17 @@ public final class BlockSealerPromises {
         x.block(w[0], w[1], w[2], w[3]);
     }
 
+    private static final String HASHED = "66e94bd4ef8a2c3b884cfa59ca342b2e";
+
+    // With a hash other than 0, a call that wrongly clears it is seen.
+    private static BlockSealer hashed() {
+        BlockSealer x = new BlockSealer();
+        x.block(Integer.MIN_VALUE, 0, 0, 0);
+        x.absorb();
+        x.block(0, 0, 0, 0);
+        return x;
+    }
+
     private static void promise1NewObject() {
         BlockSealer x = new BlockSealer();
         dueBlock("1 new", x, 0, 0, 0, 0);
@@ -83,23 +94,27 @@ public final class BlockSealerPromises {
     }
 
     private static void promise3Block() {
-        BlockSealer x = new BlockSealer();
+        BlockSealer x = hashed();
         x.block(5, 6, 7, 8);
         x.block(-1, Integer.MIN_VALUE, Integer.MAX_VALUE, 0x01020304);
         dueBlock("3 block", x, -1, Integer.MIN_VALUE, Integer.MAX_VALUE, 0x01020304);
-        dueHash("3 the hash stays", x, 0, 0, 0, 0);
+        dueHash("3 the hash stays", x, words(HASHED));
         dueRoundKey("3 the key stays", x, 0, 0, 0, 0, 0);
     }
 
     private static void promise4Mix() {
-        BlockSealer x = new BlockSealer();
+        BlockSealer x = hashed();
         x.mix(1, 2, 3, 4);
         dueBlock("4 mix with 0", x, 1, 2, 3, 4);
+        x.mix(-1, -1, -1, -1);
+        dueBlock("4 mix with all bits", x, -2, -3, -4, -5);
+        x.mix(-1, -1, -1, -1);
+        dueBlock("4 mix with all bits again", x, 1, 2, 3, 4);
         x.mix(-1, Integer.MIN_VALUE, Integer.MAX_VALUE, 4);
         dueBlock("4 mix", x, -2, Integer.MIN_VALUE + 2, Integer.MAX_VALUE - 3, 0);
         x.mix(0, 0, 0, 0);
         dueBlock("4 mix by 0", x, -2, Integer.MIN_VALUE + 2, Integer.MAX_VALUE - 3, 0);
-        dueHash("4 the hash stays", x, 0, 0, 0, 0);
+        dueHash("4 the hash stays", x, words(HASHED));
         dueRoundKey("4 the key stays", x, 0, 0, 0, 0, 0);
     }
 
@@ -115,24 +130,24 @@ public final class BlockSealerPromises {
 
     private static void promise5Encrypt() {
         for (String[] row : CIPHER) {
-            BlockSealer x = new BlockSealer();
+            BlockSealer x = hashed();
             key(x, row[0]);
             block(x, row[1]);
             x.encrypt();
             dueBlock("5 encrypt " + row[1], x, words(row[2]));
-            dueHash("5 the hash stays", x, 0, 0, 0, 0);
+            dueHash("5 the hash stays", x, words(HASHED));
             dueRoundKey("5 the key stays", x, 0, words(row[0]));
         }
     }
 
     private static void promise6Decrypt() {
         for (String[] row : CIPHER) {
-            BlockSealer x = new BlockSealer();
+            BlockSealer x = hashed();
             key(x, row[0]);
             block(x, row[2]);
             x.decrypt();
             dueBlock("6 decrypt " + row[2], x, words(row[1]));
-            dueHash("6 the hash stays", x, 0, 0, 0, 0);
+            dueHash("6 the hash stays", x, words(HASHED));
             dueRoundKey("6 the key stays", x, 0, words(row[0]));
             x.decrypt();
             x.encrypt();
@@ -153,7 +168,7 @@ public final class BlockSealerPromises {
     }
 
     private static void promise7Next() {
-        BlockSealer x = new BlockSealer();
+        BlockSealer x = hashed();
         x.next();
         dueBlock("7 next of 0", x, 0, 0, 0, 1);
         x.block(-1, -1, -1, -1);
@@ -162,7 +177,7 @@ public final class BlockSealerPromises {
         x.block(1, 2, 3, Integer.MAX_VALUE);
         x.next();
         dueBlock("7 next over the greatest int", x, 1, 2, 3, Integer.MIN_VALUE);
-        dueHash("7 the hash stays", x, 0, 0, 0, 0);
+        dueHash("7 the hash stays", x, words(HASHED));
     }
 
     private static final int[] INDEXES = {0, 1, 2, 3, 4, 5, 6, 7, 15, -1, -2, -3, -4, -5, 1 << 30,
@@ -251,7 +266,7 @@ public final class BlockSealerPromises {
         + "ac7766f319fadc2128d12941575c006e" + "d014f9a8c9ee2589e13f0cc8b6630ca6";
 
     private static void promise12RoundKey() {
-        BlockSealer x = new BlockSealer();
+        BlockSealer x = hashed();
         key(x, EXPANDED.substring(0, 32));
         int[] r = words(EXPANDED);
         for (int q = -34; q <= 34; q++) {
@@ -264,7 +279,7 @@ public final class BlockSealerPromises {
             }
         }
         dueBlock("12 the block stays", x, 0, 0, 0, 0);
-        dueHash("12 the hash stays", x, 0, 0, 0, 0);
+        dueHash("12 the hash stays", x, words(HASHED));
     }
 
     public static void main(String[] args) {
