@@ -45,8 +45,8 @@ import javax.tools.ToolProvider;
 /**
  * The rules of LANGUAGE.md that show in the source, looked at in the compiler's
  * own tree of it. Where a rule leaves more than the class uses (while loops,
- * arrays made in the constructor, constants worked out in an array's length), it
- * is the narrower form that is held here: a change that needs more has to widen it.
+ * arrays made in the constructor, asking an array's length, overloading), it is
+ * the narrower form that is held here: a change that needs more has to widen it.
  */
 public final class BlockSealerLanguage extends TreePathScanner<Void, Void> {
     private static final String SOURCE = "src/main/java/BlockSealer.java";
