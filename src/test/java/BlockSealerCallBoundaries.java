@@ -231,6 +231,8 @@ public final class BlockSealerCallBoundaries {
 
     private static void keyTakesEveryWord() {
         BlockSealer x = new BlockSealer();
+        x.block(MIN, 0, 0, 0);
+        x.absorb();
         for (int w : EDGES) {
             x.key(w, ~w, w + 1, -w);
             due("2 the key that was set", key(x), w, ~w, w + 1, -w);
@@ -238,6 +240,8 @@ public final class BlockSealerCallBoundaries {
         x.key(0, 0, 0, 0);
         due("2 the key set back to 0", key(x), 0, 0, 0, 0);
         due("2 the round keys set back to those of 0", x.roundKey(10, 3), LAST_OF_ZERO[3]);
+        due("2 the present block stays", block(x), MIN, 0, 0, 0);
+        due("2 the hash stays", hash(x), ZERO_ENCRYPTED);
     }
 
     private static void blockTakesEveryWord() {
